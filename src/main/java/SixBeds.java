@@ -245,7 +245,7 @@ public final class SixBeds {
         return 1;
     }
 
-    // ---- 4 sheets
+    // ---- 4 sheets 0 .. 3: nothing (at first), or a row of a LANE: 0 bytes, 1 ints, 2 longs (all with a sign), of 0 to 16 items
 
     public int lay(int sheet, int lane, int i) {
         int refusal = refusalOfItems(sheet, lane, i, house.count);

@@ -1,7 +1,6 @@
 import java.io.IOException;
 import java.lang.reflect.InvocationTargetException;
 import java.lang.reflect.Method;
-import java.nio.file.Files;
 import java.nio.file.Path;
 import java.util.ArrayList;
 import java.util.Arrays;
@@ -15,7 +14,6 @@ import java.util.List;
 public final class EdgesTest {
     private static final Class<?>[] GROUPS = {TermEdges.class, LodgerEdges.class, TextEdges.class, RowEdges.class, BedEdges.class,
         ColdEdges.class, SheetEdges.class};
-    private static final int PROMISES = 32;
 
     private static int wrong = 0;
 
@@ -52,26 +50,8 @@ public final class EdgesTest {
         }
     }
 
-    /** What of the document the tests are to be of: by promises, and ahead of them (0) the terms and two sentences beside them. */
-    private static String[] sections(String document) {
-        String plain = document.replace("```text", "").replace("```", "").replaceAll("==== \\d", "").replaceAll("\\s+", " ");
-        String[] sections = new String[PROMISES + 1];
-        sections[0] = between(plain, "An object is used", "; what later") + " " + between(plain, "Answers below 0", "Ahead of the calls")
-            + " " + between(plain, "sheets 0 .. 3", "## Promise 1:");
-        for (int p = 1; p <= PROMISES; p++) {
-            String whole = between(plain, "## Promise " + p + ":", p == PROMISES ? "## Not promised" : "## Promise " + (p + 1) + ":");
-            sections[p] = whole.substring(whole.indexOf("`: ") + 3);
-        }
-        return sections;
-    }
-
-    private static String between(String text, String from, String to) {
-        int start = text.indexOf(from);
-        return text.substring(start, text.indexOf(to, start));
-    }
-
-    private static void compareWithDocument(String document, List<Method> tests) {
-        String[] sections = sections(document);
+    private static void compareWithDocument(Document document, List<Method> tests) {
+        String[] sections = document.sections();
         boolean[][] tested = new boolean[sections.length][];
         for (int p = 0; p < sections.length; p++) {
             tested[p] = new boolean[sections[p].length()];
@@ -103,7 +83,7 @@ public final class EdgesTest {
         for (Method test : tests) {
             runTest(test);
         }
-        compareWithDocument(Files.readString(Path.of(args[1])), tests);
+        compareWithDocument(new Document(Path.of(args[1])), tests);
         System.out.println(tests.size() + " tests of single sentences, " + wrong + " faults");
         if (wrong != 0) {
             System.exit(1);

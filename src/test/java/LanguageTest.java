@@ -5,18 +5,16 @@ import java.lang.reflect.Modifier;
 import java.nio.file.Files;
 import java.nio.file.Path;
 import java.util.Arrays;
+import java.util.Map;
 import java.util.Set;
+import java.util.TreeMap;
 import java.util.TreeSet;
 import java.util.regex.Matcher;
 import java.util.regex.Pattern;
 
-/** The public face, and what of LANGUAGE.md can be seen from outside. The first argument is the source's path. */
+/** The public face, and what of LANGUAGE.md can be seen from outside. The arguments are the paths of source and document. */
 public final class LanguageTest {
-    private static final String FACE = "lodger(int,int,int) leave(int) told(int,int) work(int,int) sleeps(int,int) beds(int) lasts(int) "
-        + "type(long,int) lodging() count(int) first(int) ways() fewest() take() move(int,int) mended(int) rents(int) bed(int,int) "
-        + "linen() sick(int,int) brought(int,int) image() restore() lay(int,int,int) judged(int,int,int) clears(int,int,int) "
-        + "sheet(int,int,int) drop(int) item(int,int,int,long) film(int,int,int) copy(int,int,int,int,int)";
-    private static final String CONSTANTS = "BAD=-1 NOT=-2 FULL=-3 NONE=-4 NULL=-11 CAST=-12 INDEX=-13 SIZE=-14";
+    private static final Set<String> LIBRARY = Set.of("System.arraycopy", "Integer.bitCount");
     private static final String[] RULED_OUT = {"try", "catch", "finally", "throw", "throws", "import", "package", "synchronized", "assert",
         "native", "transient", "volatile", "\\w+Exact", "System\\.(?!arraycopy)\\w+", "double", "float", "toString", "hashCode", "Object"};
 
@@ -34,8 +32,13 @@ public final class LanguageTest {
         return m.getName() + "(" + types + ")";
     }
 
-    private static void face() throws IllegalAccessException {
-        Set<String> methods = new TreeSet<>(), names = new TreeSet<>(), constants = new TreeSet<>();
+    private static void face(Document document) throws IllegalAccessException {
+        Set<String> methods = new TreeSet<>(), names = new TreeSet<>(), due = new TreeSet<>();
+        Map<String, Integer> constants = new TreeMap<>();
+        for (Document.Call call : document.face()) {
+            due.add(call.withTypes());
+            hold(call.answers().equals("int"), "all answers of the face are ints, but of " + call.name());
+        }
         for (Method m : SixBeds.class.getDeclaredMethods()) {
             if (Modifier.isPublic(m.getModifiers())) {
                 methods.add(signature(m));
@@ -45,11 +48,12 @@ public final class LanguageTest {
         }
         for (Field f : SixBeds.class.getDeclaredFields()) {
             if (Modifier.isPublic(f.getModifiers())) {
-                constants.add(f.getName() + "=" + f.getInt(null));
+                constants.put(f.getName(), f.getInt(null));
             }
         }
-        hold(methods.equals(new TreeSet<>(Arrays.asList(FACE.split(" ")))), "the methods of the face, but " + methods);
-        hold(constants.equals(new TreeSet<>(Arrays.asList(CONSTANTS.split(" ")))), "the constants of the face, but " + constants);
+        hold(due.size() == Document.PROMISES - 1, "a promise for each call, and one for the constructor");
+        hold(methods.equals(due), "the methods of the face, but " + methods);
+        hold(constants.equals(document.constants()), "the constants of the face, but " + constants);
         Constructor<?>[] made = SixBeds.class.getDeclaredConstructors();
         hold(made.length == 1 && made[0].getParameterCount() == 0 && Modifier.isPublic(made[0].getModifiers()), "the constructor");
         hold(Modifier.isFinal(SixBeds.class.getModifiers()) && Modifier.isPublic(SixBeds.class.getModifiers()), "the class is public and final");
@@ -78,12 +82,25 @@ public final class LanguageTest {
         hold(fields <= 20, c + " has at most twenty fields");
     }
 
+    /** Names that begin as those of classes do: the class's own, or what the library has for it. */
+    private static void library(String code) {
+        Set<String> own = new TreeSet<>(Set.of("SixBeds"));
+        for (Class<?> c : SixBeds.class.getDeclaredClasses()) {
+            own.add(c.getSimpleName());
+        }
+        Matcher m = Pattern.compile("\\b([A-Z]\\w*[a-z]\\w*)(\\.\\w+)?").matcher(code);
+        while (m.find()) {
+            hold(own.contains(m.group(1)) || LIBRARY.contains(m.group()), "the library that is used, but " + m.group());
+        }
+    }
+
     private static void source(String text) {
         String code = text.replaceAll("(?s)/\\*.*?\\*/", "").replaceAll("//[^\n]*", "").replaceAll("'.'", "' '");
         for (String word : RULED_OUT) {
             Matcher m = Pattern.compile("\\b" + word + "\\b").matcher(code);
             hold(!m.find(), "the source is without " + word);
         }
+        library(code);
         hold(!code.contains("->") && !code.contains("::"), "no lambda, no method reference");
         hold(!code.contains("\""), "no text is needed");
         int lines = 0;
@@ -96,8 +113,13 @@ public final class LanguageTest {
     }
 
     public static void main(String[] args) throws Exception {
-        face();
-        source(Files.readString(Path.of(args[0])));
+        Document document = new Document(Path.of(args[1]));
+        String text = Files.readString(Path.of(args[0]));
+        face(document);
+        source(text);
+        for (String heading : document.headings()) {
+            hold(text.contains("// " + heading + "\n"), "the words ahead of the calls: " + heading);
+        }
         System.out.println(wrong + " rules do not hold");
         if (wrong != 0) {
             System.exit(1);
